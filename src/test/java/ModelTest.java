@@ -49,7 +49,7 @@ public final class ModelTest {
                     if (pending.isEmpty()) {
                         name = "feed!";
                     }
-                } else if (i < 40 && upTo(12) == 0 || upTo(150) == 0) {
+                } else if (i < 40 && upTo(6) == 0 || upTo(100) == 0) {
                     pending = randomText();
                     i--;
                     continue;
@@ -91,7 +91,7 @@ public final class ModelTest {
     private static final String[] NAMES = {"lay", "gleaner", "set", "told", "run", "asks", "feed", "text", "force",
         "glean", "go", "night", "tries", "nights", "first", "best", "rowFor", "longest", "close", "tells", "film",
         "drawn", "chance", "image", "back", "count", "sheet", "cell", "copy", "gleaners", "taken", "tells", "tells",
-        "film", "cell", "gleaner", "lay", "told", "nights", "best"};
+        "film", "cell", "gleaner", "lay", "lay", "lay", "lay", "set", "told", "nights", "best", "first", "asks"};
 
     private static int[] arguments(String name, Model m) {
         int one = about(0, Math.max(0, m.crew.size() - 1));
@@ -148,8 +148,9 @@ public final class ModelTest {
     }
 
     private static String randomText() {
-        String text = "takes " + expression(0) + ";keeps " + expression(0) + ";shakes " + expression(0) + ";";
-        if (upTo(3) == 0) {
+        int plain = 2 + upTo(5);
+        String text = "takes " + expression(plain) + ";keeps " + expression(plain) + ";shakes " + expression(plain + 1) + ";";
+        if (upTo(4) == 0) {
             int at = upTo(text.length());
             String[] junk = {" ", "\n", "(", ")", "not ", "-", "+", "A", "12345", "gapp", "takes", ";", "<", "", "\u00e9", "0007", "1 2"};
             text = text.substring(0, at) + junk[upTo(junk.length)] + text.substring(at + (upTo(2) == 0 && at < text.length() ? 1 : 0));
@@ -159,7 +160,7 @@ public final class ModelTest {
 
     private static String expression(int depth) {
         String[] names = {"gap", "nth", "number", "night", "apron", "row"};
-        switch (depth > 6 ? upTo(4) : upTo(14)) {
+        switch (depth > 7 ? upTo(4) : upTo(14)) {
             case 0: case 1: case 2: return names[upTo(6)];
             case 3: return "" + (upTo(5) == 0 ? upTo(10000) : upTo(12));
             case 4: return "-" + expression(depth + 2);
