@@ -893,7 +893,10 @@ public final class GleanersForGaps {
                     continue;
                 }
                 if (size > 0) {
-                    int taken = takeOfRun(state, one, row, size);
+                    int room = PLACES - state.length[row];
+                    int v = rule.takesTold(state, one, size, runs, state.length[row]);
+                    int taken = Math.max(wanted(state, one, size, v), -room);
+                    noteTaken(state, one, row, taken);
                     together += taken;
                     place += size - taken;
                     size = 0;
@@ -908,17 +911,13 @@ public final class GleanersForGaps {
         }
 
         /** The length and the apron change at once: the next run is told as all is then. */
-        private int takeOfRun(State state, int one, int row, int size) {
-            int room = PLACES - state.length[row];
-            int v = rule.takesTold(state, one, size, runs, state.length[row]);
-            int taken = Math.max(wanted(state, one, size, v), -room);
+        private void noteTaken(State state, int one, int row, int taken) {
             state.length[row] -= taken;
             state.apron[one] = bounded(state.apron[one] + taken, 0, MOST_APRON);
             if (runs < RUNS) {
                 takenOfRun[runs] = taken;
                 runs++;
             }
-            return taken;
         }
 
         /** All glean a row in an order: how much that one has taken. */

@@ -318,6 +318,11 @@ public final class PromisesTest {
         due("the tape stays", x.count(4), whole.length());
         due("FULL ahead of a fault", x.text(), FULL);
         due("texts", x.count(3), 6);
+        GleanersForGaps y = new GleanersForGaps();
+        due("a longer tape ahead", text(y, "takes gap+12345678"), -100 - 10);
+        due("ends too early, in a number", text(y, "takes gap+12"), -100 - 12);
+        due("ends too early, in a word", text(y, "takes ga"), -100 - 6);
+        due("ends too early, behind a word", text(y, "takes"), -100 - 5);
         due("words and numbers without blanks", text(new GleanersForGaps(), "takes5;keeps0005;shakesgap;"), -100 - 17);
         due("words and numbers without blanks", text(new GleanersForGaps(), "takes5;keeps0005;shakes(gap);"), 1);
     }
@@ -337,7 +342,7 @@ public final class PromisesTest {
             "@;", "@keeps 1;", "takes @;", "takes 1 @keeps", "takes 1;@shakes 1;", "takes 1;@takes 1;",
             "takes 1;keeps 2;@keeps 3;", "takes 1;keeps 1;shakes 1;@;", "takes 1;keeps 1;shakes 1; @takes",
             // words, numbers, bytes
-            "@take 1;", "@takesgap;", "@ta kes 1;", "@Takes 1;", "takes @gaps;", "takes @ga p;", "takes 1 @andnot 1;",
+            "@take 1;", "@takesgap;", "@ta kes 1;", "@Takes 1;", "takes @gaps;", "takes @gapz;", "takes @zgap;", "takes @ga p;", "takes 1 @andnot 1;",
             "takes @12345;", "takes @00000;", "takes 1234 @5;", "takes 1@A;", "takes @_;", "takes 1 @/ 2;", "takes 1;keeps 1@>",
             "takes 1;keeps 1;shakes @\u00e9;", "takes 1;keeps 1;shakes 1; @\t", "takes 1;keeps 1;shakes 1;@\u0000",
             // expressions
@@ -416,6 +421,11 @@ public final class PromisesTest {
         due("names of keeps", x.told(0, 4), 17);
         lay(x, 3, "....");
         due("names of shakes", x.told(3, 10), 0);
+        lay(x, 2, ".#..#...");
+        x.tries(0, 2, 0);
+        due("names of keeps, behind gleaning", x.told(0, 4), 17);
+        x.tries(0, 2, 0);
+        due("names of shakes, behind gleaning", x.told(3, 10), 0);
     }
 
     // ---- promise 10
